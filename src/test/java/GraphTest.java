@@ -172,6 +172,9 @@ public final class GraphTest {
         CHECK.due("phrases", talk.x.phrases(), 1L << 48);
         CHECK.due("the last edge", talk.x.edge(511, 1), 400);
         CHECK.due("rows besides", talk.x.rows(2), 0);
+        CHECK.due("weight", talk.x.weight((1L << 48) - 1), 10000000000000000L);
+        CHECK.due("heaviest", talk.x.heaviest(), 0);
+        CHECK.due("the last word", talk.x.phrase((1L << 48) - 1, 63), talk.x.position(63, 7));
     }
 
     private static void graphStaysAsItWas() {

@@ -145,6 +145,9 @@ public final class RulesTest {
         fault("a~", 1);
         fault(" ".repeat(207) + "=", 207);
         fault(" ".repeat(208), 208);
+        fault(",".repeat(208), 0);
+        fault("=>".repeat(104), 0);
+        fault("a " + "z".repeat(206), 2);
         fault("a,".repeat(7) + "a" + " ".repeat(192) + ",", 208);
     }
 
@@ -205,6 +208,9 @@ public final class RulesTest {
         left(talk, 55, "x67", "y^10, ^10");
         left(talk, 59, "c", "a^10, b^10, x00^10");
         CHECK.due("left 60", talk.x.left(60, -1), BAD);
+        CHECK.due("left 0 goes round, by e", talk.x.left(0, -3), 1);
+        CHECK.due("left 55 does not", talk.x.left(55, -3), 0);
+        CHECK.due("left 59 goes round", talk.x.left(59, -3), 1);
     }
 
     private static void mostAlternatives() {
