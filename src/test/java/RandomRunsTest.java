@@ -3,8 +3,9 @@ import java.util.Random;
 /** All promises: runs of calls, the same in each run of this test, answered by the class and by the model. */
 public final class RandomRunsTest {
     private static final Check CHECK = new Check("random runs");
-    private static final int RUNS = 1500;
-    private static final int CALLS = 400;
+    private static final int RUNS = 4000;
+    // An object has 512 calls; a last question may need many.
+    private static final int CALLS = 330;
 
     private final Random random;
     private final int run;
@@ -13,6 +14,7 @@ public final class RandomRunsTest {
     private final SynonymGraphs x = new SynonymGraphs();
     private final Model model = new Model();
     private final String[] words;
+    private int calls = 0;
     private static int graphs = 0;
     private static int fullGraphs = 0;
     private static int longGraphs = 0;
@@ -46,7 +48,7 @@ public final class RandomRunsTest {
         tellRow(16);
         due("input", x.input(), model.input());
         drawGraph();
-        for (int i = 0; i < CALLS / 4; i++) {
+        while (calls < CALLS) {
             change();
             for (int j = 0; j < 4; j++) {
                 ask();
@@ -55,6 +57,7 @@ public final class RandomRunsTest {
     }
 
     private void due(String call, long got, long want) {
+        calls++;
         CHECK.due("run " + run + ": " + call, got, want);
     }
 
@@ -272,13 +275,15 @@ public final class RandomRunsTest {
         long heaviest = x.heaviest();
         CHECK.holds("heaviest", x.weight(heaviest) > x.weight(k) || x.weight(heaviest) == x.weight(k) && heaviest <= k);
         StringBuilder text = new StringBuilder();
-        for (int i = 0; i < x.phrase(k, -1); i++) {
+        int length = x.phrase(k, -1);
+        for (int i = 0; i < length; i++) {
             int number = x.phrase(k, i);
-            for (int b = 0; b < x.word(number, -1); b++) {
-                text.append((char) x.word(number, b));
+            for (int b = 0; b < model.word(number, -1); b++) {
+                text.append((char) model.word(number, b));
             }
             text.append(' ');
         }
+        calls += 10 + length;
         if (text.length() < 190 && x.told(0) == 0) {
             tell(text.toString());
             model.which();

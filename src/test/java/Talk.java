@@ -46,6 +46,17 @@ final class Talk {
         return x.which();
     }
 
+    /** There are so many words with numbers: those that are missing come by documents. */
+    void haveWords(int due) {
+        for (int have = x.told(1); have < due; have = x.told(1)) {
+            StringBuilder row = new StringBuilder();
+            for (int n = have; n < due && n < have + 40; n++) {
+                row.append(n + 100).append(' ');
+            }
+            document(row.toString());
+        }
+    }
+
     /** Rules in force, an input, and its graph. */
     static Talk graph(String input, String... rules) {
         Talk talk = new Talk();
