@@ -8,10 +8,12 @@ final class GraphBounds {
 
     void all() {
         sixteenWords();
+        fromTheLeft();
         longestLeft();
         wordAlone();
         nextMatch();
         newNodes();
+        inTheSameOrder();
         mostNodesAndEdges();
         edgeWithoutWord();
         tenthsOfEdges();
@@ -64,6 +66,21 @@ final class GraphBounds {
         ask.due("told", above.x.told(6), 1);
         ask.due("no number", above.x.told(1), 1);
         ask.due("16 words of 12 bytes", above.input("abcdefghijkl ".repeat(16)), 16);
+    }
+
+    private void fromTheLeft() {
+        ask.sentence("MATCHES of it from the left: at a word of THE INPUT");
+        // The longer left begins within the first match, so it does not come to stand.
+        Talk talk = Talk.graph("a b c d", "b c d => x", "a b => y", "c => z");
+        ask.due("matches", talk.x.size(2), 3);
+        match(talk, 0, 0, 2, 1, 1, 0);
+        match(talk, 1, 2, 1, 2, 1, 1);
+        match(talk, 2, 3, 1, Bounds.NONE, 1, 2);
+        ask.same("the only phrase", talk.phrase(0), "y z d");
+        Talk later = Talk.graph("c b c d", "b c d => x", "a b => y", "c => z");
+        ask.due("matches", later.x.size(2), 2);
+        match(later, 1, 1, 3, 0, 1, 1);
+        ask.same("the only phrase", later.phrase(0), "z x");
     }
 
     private void longestLeft() {
@@ -145,6 +162,17 @@ final class GraphBounds {
             edge(talk, e + 11, due[e][0] + 7, due[e][1] + 7, word, 10);
         }
         match(talk, 1, 1, 1, 0, 5, 7);
+    }
+
+    private void inTheSameOrder() {
+        ask.sentence("EDGES come in the same order: for each WORD one from the NODE before it to that behind it;");
+        Talk talk = Talk.graph("a b c", "c => 0 1, 2", "a => 3, 4 5 6^5");
+        sizes("two rules", talk, 7, 8, 3);
+        // By numbers, c 0 1 2 a 3 4 5 6 b are 0 to 9.
+        int[][] due = {{0, 3, 5}, {0, 1, 6}, {1, 2, 7}, {2, 3, 8}, {3, 4, 9}, {4, 5, 1}, {5, 6, 2}, {4, 6, 3}};
+        for (int e = 0; e < due.length; e++) {
+            edge(talk, e, due[e][0], due[e][1], due[e][2], e == 1 ? 5 : 10);
+        }
     }
 
     private void mostNodesAndEdges() {

@@ -23,6 +23,7 @@ final class TextBounds {
         shapesOfRows();
         placesOfFaults();
         whatIsNoToken();
+        whatCantCome();
         fifthWord();
         ninthSide();
         behindCaret();
@@ -323,6 +324,31 @@ final class TextBounds {
         ask.due("in a row", new Talk().input("a b abcdefghijklm ="), -14);
         ask.due("in a document", new Talk().document("a = abcdefghijklm"), -12);
         ask.due("in a text that is asked for", new Talk().which("a =abcdefghijklm"), -12);
+    }
+
+    private void whatCantCome() {
+        ask.sentence("; what can't come; in a RULE");
+        // What may stand in a rule so far, and each token behind it: * is where it is due as a fault.
+        String[][] table = {
+            {"", "a", "*,", "*^", "*=>", "*"},
+            {"a", "a", ",a", "^1", "=>", ""},
+            {"a,", "a", "*,", "*^", "*=>", "*"},
+            {"a^", "*a", "*,", "*^", "*=>", "*"},
+            {"a^1", " *a", ",a", "*^", "=>", ""},
+            {"a=>", "a", "*,", "*^", "*=>", ""},
+            {"a=>b", "a", ",a", "^1", "*=>", ""},
+            {"a=>b,", "a", "*,", "*^", "*=>", "*"},
+            {"a=>b^", "*a", "*,", "*^", "*=>", "*"},
+            {"a=>b^1", " *a", ",a", "*^", "*=>", ""}};
+        for (String[] line : table) {
+            for (int i = 1; i < line.length; i++) {
+                rule((line[0] + line[i]).replace('*', '|'));
+                // A fault further on is not the first.
+                if (line[i].contains("*") && !line[i].endsWith("*")) {
+                    rule((line[0] + line[i] + " ~ ,").replace('*', '|'));
+                }
+            }
+        }
     }
 
     private void fifthWord() {
